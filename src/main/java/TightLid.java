@@ -491,6 +491,7 @@ public final class TightLid {
         if (!isJar(jar) || vacuum < 0 || vacuum > MOST_ITEM) {
             return NONE;
         }
+        spare.restart();
         return openersOf(jar, vacuum);
     }
 
@@ -498,6 +499,7 @@ public final class TightLid {
         if (!isJar(jar) || least < 0 || least > MOST_ITEM || share < 0 || share > 100) {
             return NONE;
         }
+        spare.restart();
         for (int vacuum = MOST_ITEM; vacuum >= least; vacuum--) {
             if (openersOf(jar, vacuum) * 100 >= told.counts[HANDS] * share) {
                 return vacuum;
@@ -723,8 +725,8 @@ public final class TightLid {
         return saved;
     }
 
+    /** In the spare scene, in which all is as told at first. */
     private int openersOf(int jar, int vacuum) {
-        spare.restart();
         spare.cells[jar * JAR_CELLS + VACUUM] = vacuum;
         int openers = 0;
         for (int hand = 0; hand < told.counts[HANDS]; hand++) {
@@ -1533,11 +1535,19 @@ public final class TightLid {
             return NONE;
         }
 
+        /** Of a hand's tries that do not open it the one with the greatest grip leaves the least hold. */
         private boolean opensInTwo(Scene scene) {
-            for (int i = 0; i < actCount; i++) {
+            for (int i = 0; i < actCount && acts[i] < TRY; i++) {
                 two.take(scene);
                 two.act(acts[i]);
                 if (two.lid(CRACKED) == 0 && opensByTry(two)) {
+                    return true;
+                }
+            }
+            for (int hand = 0; hand < told.counts[HANDS]; hand++) {
+                two.take(scene);
+                two.tryLid(hand, greatestGrip(scene, hand));
+                if (opensByTry(two)) {
                     return true;
                 }
             }

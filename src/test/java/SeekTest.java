@@ -41,6 +41,13 @@ public final class SeekTest {
         soonest("jv10s10;hp0;hp20w1;h", 1, false, 1, 129);
         soonest("jv60s1;hp60t0", 2, false, 2, 0);
         soonest("jv60s2;hp0;hp60t0", 3, false, 2, 0);
+        soonest("jv0s10;hp4", 3, false, 3, 0);
+        soonest("jv8s0;hp0", 3, false, 3, 1);
+        soonest("jv0s4g20;hp0", 3, false, 3, 0);
+        soonest("jv0s4g19;hp1", 3, false, 2, 0);
+        soonest("jv40s9;hp45t9;hp49t0", 2, false, 1, 119);
+        soonest("jv40s9;hp45t0", 3, false, 2, 1);
+        soonest("jv45s5;hp45t0;ta0", 3, false, 3, 0);
         TightLid tired = Check.kitchen("jv30s2l1;hp30t9");
         tired.turn(0, -1, 0);
         tired.work(1);
@@ -263,6 +270,7 @@ public final class SeekTest {
         Check.due("factory of none", lid.factory(0, 0, 0), 99);
         Check.due("factory from 20", lid.factory(0, 20, 100), 20);
         Check.due("factory from 21", lid.factory(0, 21, 100), -1);
+        Check.due("factory from 99", lid.factory(0, 99, 0), 99);
         Check.due("factory(2, ..)", lid.factory(2, 0, 0), -1);
         Check.due("factory least -1", lid.factory(0, -1, 0), -1);
         Check.due("factory least 100", lid.factory(0, 100, 0), -1);
