@@ -169,6 +169,7 @@ public final class TightLid {
         lawHeld = NONE;
         now.restart();
         diary.clear();
+        guess.clear();
         ready = true;
         return told.counts[JARS];
     }

@@ -243,6 +243,8 @@ final class Model {
         image = null;
         past.clear();
         notes.clear();
+        grips.clear();
+        opened = false;
         return toldJars.size();
     }
 

@@ -256,6 +256,7 @@ public final class TextTest {
         Check.due("step(-1, 0)", lid.step(-1, 0), -1);
         steps();
         anotherKitchen();
+        triedGone();
     }
 
     private static void steps() {
@@ -276,8 +277,10 @@ public final class TextTest {
         lid.turn(0, -1, 0);
         lid.image();
         lid.pause(7);
+        lid.tried(40, true);
         Check.due("a refused kitchen", Check.text(lid, 0, "j"), -1);
         Check.due("changes nothing", lid.count(7), 8);
+        Check.due("TRIED neither", lid.tight(0), 41);
         Check.due("another kitchen", Check.text(lid, 0, "j;h;t"), 1);
         int[] want = {1, 1, 1, 1, 1, 0, 0, 0, -1, 0, 0, 0};
         for (int what = 0; what < want.length; what++) {
@@ -289,5 +292,24 @@ public final class TextTest {
         Check.due("no act of it", lid.undo(), -1);
         Check.due("no log of it", lid.log(0, 0), -1);
         Check.due("grip by the plain rule", lid.grip(0, -1, 0), 30);
+    }
+
+    /** Laws and plans alone outlast a kitchen, the first one too. */
+    private static void triedGone() {
+        TightLid lid = new TightLid();
+        lid.tried(0, false);
+        Check.text(lid, 1, "y:1");
+        Check.text(lid, 2, "t");
+        Check.due("a law, a plan leave TRIED", lid.tight(0), 300);
+        Check.due("the first kitchen", Check.text(lid, 0, "j;h"), 1);
+        Check.due("tight(0) of none", lid.tight(0), 301);
+        Check.due("tight(1) of none", lid.tight(1), 0);
+        Check.due("nothing to forgive", lid.forgive(), false);
+        Check.due("tried, opened", lid.tried(50, true), 1);
+        Check.due("no more behind that", lid.tried(60, false), -1);
+        Check.due("another kitchen", Check.text(lid, 0, "j;j;h"), 2);
+        Check.due("next(9) of none", lid.next(9), 10);
+        Check.due("tried anew", lid.tried(60, false), 1);
+        Check.due("tight(0) anew", lid.tight(0), 240);
     }
 }
