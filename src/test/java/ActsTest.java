@@ -169,6 +169,14 @@ public final class ActsTest {
         TightLid cracked = Check.kitchen("jg1;h");
         cracked.heat(2);
         Check.due("shut a cracked one", cracked.shut(0), -1);
+        TightLid two = Check.kitchen("jv10s5;jv90s50;hp60t0;h;h;h;h;h");
+        two.table(1);
+        two.turn(0, -1, 0);
+        two.table(0);
+        two.turn(0, -1, 0);
+        Check.due("shut by the sixth hand", two.shut(5), 15);
+        two.table(1);
+        Check.due("loosened of another jar stays", two.hand(0, 6), 6);
     }
 
     private static void tables() {

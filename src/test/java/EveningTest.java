@@ -53,6 +53,11 @@ public final class EveningTest {
         lid.forgive();
         Check.due("opened by 0", lid.tried(0, true), 1);
         tight(lid, 1, 0, 0);
+        lid.forgive();
+        lid.tried(299, false);
+        tight(lid, 1, 300, 300);
+        Check.due("next(270), of 271 now", lid.next(270), 0);
+        Check.due("next(271)", lid.next(271), 1);
     }
 
     private static void evenings() {

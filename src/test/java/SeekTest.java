@@ -61,6 +61,19 @@ public final class SeekTest {
         byLaw.law(0);
         Check.due("by a law", byLaw.soonest(3, false, 0), 2);
         Check.due("heat lets it grip", byLaw.soonest(3, false, 1), 3);
+        soonestAtTheEdges();
+    }
+
+    private static void soonestAtTheEdges() {
+        soonest("jv40s29;hp60t0", 3, false, 3, 0);
+        soonest("jv40s30;hp60t0", 3, false, 3, 1);
+        soonest("jv40s31;hp60t0", 3, false, 3, 109);
+        soonest("jv40s33;hp60t0", 3, false, Check.HIDDEN, Check.HIDDEN);
+        TightLid many = Check.kitchen("j;h;h;h;h;h;hp50;t;t;t;t");
+        Check.text(many, 1, "y:p=50&a=0?99;y:0");
+        many.law(0);
+        Check.due("the last hand, bare", many.soonest(1, true, 1), 159);
+        Check.due("none sooner", many.soonest(3, true, 0), 1);
     }
 
     private static void soonestRefused() {

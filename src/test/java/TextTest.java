@@ -114,6 +114,9 @@ public final class TextTest {
         kitchen("j;h;ta1c1a1", 9);
         kitchen("j;j;j;j;h", -1);
         kitchen("j;j;j;j;j", 8);
+        kitchen("j;j;j;j;h;h;h;h;h;h;t;t;t;t", -1);
+        kitchen("j;j;j;j;h;h;h;h;h;h;t;t;t;t;j", 28);
+        kitchen("j;j;j;j;h;h;h;h;h;h;t;t;t;t;", 28);
         kitchen("j;h;h;h;h;h;h", -1);
         kitchen("j;h;h;h;h;h;h;h", 14);
         kitchen("j;h;t;t;t;t", -1);
