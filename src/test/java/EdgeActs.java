@@ -280,6 +280,7 @@ final class EdgeActs {
         Edge.refused(lid, "pause(0)", x -> x.pause(0), -1);
         Edge.refused(lid, "pause(-1)", x -> x.pause(-1), -1);
         Edge.refused(lid, "pause(61)", x -> x.pause(61), -1);
+        waitOfAll();
         TightLid dry = Check.kitchen("j;hw5");
         dry.pause(60);
         Edge.due("wet 0 at least", dry.hand(0, 2), 0);
@@ -287,6 +288,28 @@ final class EdgeActs {
         broken.pause(60);
         Edge.due("a cracked one stays so", jar(broken, 0, 9), 1);
         Edge.due("apart of a cracked one", jar(broken, 0, 6), 0);
+    }
+
+    /** As many as there can be: a wait changes what it is told to, of all of them, and nothing else. */
+    private static void waitOfAll() {
+        TightLid lid = Check.kitchen("jg99v90;jg99v90;jg99v90;jg99v90;hp90w9t9;hp90w9t9;hp90w9t9;hp90w9t9;hp90w9t9;hp90w9t9;"
+                + "t;t;t;t");
+        for (int jar = 3; jar >= 0; jar--) {
+            lid.table(jar);
+            lid.heat(40 + jar);
+        }
+        for (int hand = 0; hand < 6; hand++) {
+            lid.turn(hand, -1, 1);
+        }
+        lid.pause(5);
+        for (int jar = 0; jar < 4; jar++) {
+            int n = jar;
+            Edge.row("jar " + jar, what -> jar(lid, n, what), 90, n == 0 ? 14 : 2, 0, 0, 5, 99, 30 + n, 0, 0, 0);
+        }
+        for (int hand = 0; hand < 6; hand++) {
+            int n = hand;
+            Edge.row("hand " + hand, what -> lid.hand(n, what), 86, 5, 9, 9, 0, 90, 0);
+        }
     }
 
     private static void shutting() {

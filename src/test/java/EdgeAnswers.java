@@ -120,6 +120,8 @@ final class EdgeAnswers {
         }
         for (int what : far) {
             refused("run(0, " + what + ")", lid -> lid.run(0, what), -1);
+            refused("run(1, " + what + ")", lid -> lid.run(1, what), -1);
+            Edge.due("of one that opens", byOpen().run(0, what), -1);
         }
         refused("not open", lid -> lid.run(0, 0), -1);
         refused("not cracked", lid -> lid.run(0, 1), -1);
@@ -220,7 +222,7 @@ final class EdgeAnswers {
     private static void saves() {
         Edge.says("`int saves(int tool, int what)`: SAVES: how many (0), PRICE above (1), below (2). NONE: no such ones;"
                 + " PRICE: it saves none.");
-        int[][] far = {{-1, 0}, {-1, 1}, {2, 0}, {2, 2}, {0, -1}, {0, 3}, {1, 3}, {FAR, 0}, {DEEP, 0}, {0, FAR}, {0, DEEP}};
+        int[][] far = {{-1, 0}, {-1, 1}, {2, 0}, {2, 2}, {0, -1}, {0, 3}, {1, -1}, {1, 3}, {FAR, 0}, {DEEP, 0}, {0, FAR}, {0, DEEP}};
         for (int[] row : far) {
             refused("saves(" + row[0] + ", " + row[1] + ")", lid -> lid.saves(row[0], row[1]), -1);
         }

@@ -122,6 +122,9 @@ final class EdgeEvenings {
             TightLid weak = Check.kitchen("jv0s0;hp3e9");
             Edge.due("grip 0 at least", weak.evening(1, seed), 1);
             Edge.due("opens a hold of 0", Check.jar(weak, 0, 8), 1);
+            TightLid held = Check.kitchen("jv1s0;hp3e9");
+            held.evening(1, seed);
+            Edge.due("opens a hold of 1", Check.jar(held, 0, 8), slip < 3 ? 1 : 0);
         }
     }
 

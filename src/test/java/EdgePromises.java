@@ -234,6 +234,7 @@ final class EdgePromises {
             lid.table(1);
             lid.evening(40, 3L);
             lid.image();
+            lid.law(1);
             lid.tried(50, true);
             Check.text(lid, 0, "j;j;h;h;h;h;h;h;t");
             return lid;
@@ -261,6 +262,31 @@ final class EdgePromises {
         Edge.due("jars of another one are gone", Check.jar(fewer, 1, 0), Check.THROWN);
         Edge.due("hands", fewer.hand(1, 0), -1);
         Edge.due("tools", fewer.tool(0, 0), -1);
+        TightLid weaker = Check.kitchen("j;h;ta99;ta99;ta99;ta99");
+        weaker.soonest(3, true, 0);
+        Check.text(weaker, 0, "jv60s30;h;ta1");
+        Edge.due("tools do not help any more", weaker.soonest(3, false, 0), Check.HIDDEN);
+        everyNumber();
+    }
+
+    /** As many as there can be, each with numbers of its own. */
+    private static void everyNumber() {
+        TightLid lid = Check.kitchen("jv11s21c1l1w1g31;jv12s22c2l0w2g32;jv13s23c3l1w3g33;jv14s24c4l0w4g34;"
+                + "hp41s1w2t3e4;hp42s2w3t4e5;hp43s3w4t5e6;hp44s4w5t6e7;hp45s5w6t7e8;hp46s6w7t8e9;"
+                + "ta51c61;ta52c62;ta53c63;ta54c64");
+        for (int jar = 0; jar < 4; jar++) {
+            int n = jar;
+            Edge.row("jar " + jar, what -> Check.jar(lid, n, what), 11 + n, 21 + n, 1 + n, (n + 1) % 2, 1 + n, 31 + n,
+                    0, 0, 0, 0, 34 + 4 * n);
+        }
+        for (int hand = 0; hand < 6; hand++) {
+            int n = hand;
+            Edge.row("hand " + hand, what -> lid.hand(n, what), 41 + n, 1 + n, 2 + n, 3 + n, 4 + n, 41 + n, 0);
+        }
+        for (int tool = 0; tool < 4; tool++) {
+            int n = tool;
+            Edge.row("tool " + tool, what -> lid.tool(n, what), 51 + n, 61 + n);
+        }
     }
 
     private static void jar() {

@@ -132,6 +132,42 @@ final class EdgeSearches {
         soonest("jv40s32;hp60t0", 3, false, 3, 109);
         soonest("jv40s33;hp60t0", 3, false, Check.HIDDEN, Check.HIDDEN);
         soonest("jv60s1;hp60t1;hp20t0", 2, false, 2, 0);
+        soonest("jv0s6;hp0", 3, false, 3, 0);
+        soonest("jv40s16;hp45t0;hp45t0", 3, false, Check.HIDDEN, Check.HIDDEN);
+        soonest("jv20s13;hp20;ta10", 2, false, 2, 0);
+        soonest("jv20s13;hp20;ta0;ta0;ta0;ta10", 2, false, 2, 0);
+        soonest("jv20s13;hp20;ta9;ta9;ta9;ta9", 2, false, 2, 1);
+        soonest("jv30s22;hp50w3t3", 2, false, Check.HIDDEN, Check.HIDDEN);
+        soonest("jv50s43;hp90w9t1", 2, false, Check.HIDDEN, Check.HIDDEN);
+        soonest("jv3s0c3;hp12w1", 2, false, 2, 4);
+        soonest("jv30s22c1w9;hp50s1;hp50s9", 2, false, 2, 3);
+        soonestAgain();
+    }
+
+    /** Asked again of one object: nothing is left of what was asked ahead. */
+    private static void soonestAgain() {
+        TightLid lid = Check.kitchen("jv50s10;jv50s7w9;hp60;hp26s9;ta5");
+        Check.text(lid, 1, "y:p/2");
+        Check.text(lid, 1, "y:p-5-a");
+        lid.table(1);
+        Edge.due("too wide", lid.soonest(2, false, 0), 2);
+        Edge.due("by a knock, with a tool", lid.soonest(2, false, 1), 1);
+        Edge.due("with a hole", lid.soonest(2, true, 1), 1);
+        lid.table(0);
+        Edge.due("the other one at once", lid.soonest(2, false, 1), 100);
+        lid.law(0);
+        Edge.due("by half", lid.soonest(2, false, 0), Check.HIDDEN);
+        Edge.due("by half with a hole", lid.soonest(2, true, 1), 2);
+        Edge.due("without again", lid.soonest(3, false, 0), Check.HIDDEN);
+        lid.law(1);
+        lid.table(1);
+        Edge.due("bare hands are better", lid.soonest(2, false, 1), 0);
+        lid.law(-1);
+        Edge.due("no law again", lid.soonest(2, false, 1), 1);
+        TightLid tires = Check.kitchen("jv30s25;hp5t5");
+        Check.text(tires, 1, "y:p*10");
+        tires.law(0);
+        Edge.due("50 against 55, then none", tires.soonest(2, false, 0), Check.HIDDEN);
     }
 
     private static void orders() {
@@ -150,6 +186,8 @@ final class EdgeSearches {
         order("jv50s5;hp51;hp10;hp10;hp10;hp10;hp10", 123405, 5);
         order("jv50s5l1;hp55", 0, 1);
         order("jv0s9;hp8t0", -1, -1);
+        order("j;hp18;hp28", -1, -1);
+        order("jv30s0;hp10;hp29", -1, -1);
     }
 
     private static void order(String kitchen, int digits, int many) {
@@ -230,6 +268,8 @@ final class EdgeSearches {
         shares("j;h;hp0;hp0;hp0;hp0;hp0", 720, 0, 0, 0, 0, 0);
         shares("jv40s5;hp10;hp10;hp10;hp10;hp10;hp40", 120, 120, 120, 120, 120, 120);
         shares("j;hp29;hp25", 0, 0);
+        shares("j;hp18;hp28", 0, 0);
+        shares("jv30s0;hp10;hp29", 0, 0);
     }
 
     private static void shares(String kitchen, int... want) {
@@ -327,6 +367,7 @@ final class EdgeSearches {
         saves("j;j;j;j;hp29;hp29;hp29;hp29;hp29;hp29;ta1c99", 24, 33, 8);
         saves("j;j;j;j;hp29;hp29;hp29;hp29;hp29;hp29;ta1c96", 24, 4, 1);
         saves("j;jv21;jv22;hp29;hp30;ta1c5", 2, 5, 2);
+        saves("jv99;jv99;jv99;jv99;hp1;hp1;ta10c5", 0, -1, -1);
         TightLid lid = Check.kitchen("jl1;hp29t9w1;ta5c3");
         Edge.due("at first", lid.saves(0, 0), 1);
         lid.turn(0, -1, 0);
@@ -355,6 +396,8 @@ final class EdgeSearches {
         for (int[] row : rows) {
             Edge.looks(lid, "openers(" + row[0] + ", " + row[1] + ")", () -> lid.openers(row[0], row[1]), row[2]);
         }
+        Edge.due("one of one", Check.kitchen("js0;hp0").openers(0, 0), 1);
+        Edge.due("six of six", Check.kitchen("js0;j;j;j;hp0;hp0;hp0;hp0;hp0;hp0").openers(0, 0), 6);
         lid.work(0);
         lid.work(3);
         lid.turn(0, -1, 0);

@@ -227,6 +227,9 @@ final class EdgeTexts {
         fault(1, blanks + "y: ", 200);
         fault(2, blanks + "y09", -1);
         fault(2, blanks + "t; ", 200);
+        for (int sort = 0; sort < 3; sort++) {
+            fault(sort, blanks + "   ", 200);
+        }
     }
 
     private static void faultsOfNumbers() {
@@ -274,7 +277,7 @@ final class EdgeTexts {
         Edge.says("(A HAND, a TOOL of a STEP that is not there is no FAULT: the STEP does nothing.)");
         fault(2, "d9;y99;y08;y90", -1);
         TightLid lid = Check.kitchen("jv20s10;hp30;t");
-        Check.text(lid, 2, "d1;y19;y01;y08;d9;y99");
+        Check.text(lid, 2, "d1;y19;y10;y01;y08;d9;y99");
         String seen = Check.all(lid);
         Edge.due("nothing is done", lid.perform(0), 0);
         Edge.same("nothing changes", Check.all(lid), seen);
