@@ -73,21 +73,28 @@ final class Check {
         }
     }
 
-    /** Everything that calls can tell of an object without changing it. */
-    static String all(TightLid lid) {
+    /** JARS, HANDS, what was LOOSENED, the TABLE and the MINUTE. */
+    static String scene(TightLid lid) {
         StringBuilder told = new StringBuilder();
-        for (int what = 0; what < 12; what++) {
-            told.append(lid.count(what)).append(' ');
-        }
+        told.append(lid.count(6)).append(' ').append(lid.count(7));
         for (int jar = 0; jar < lid.count(0); jar++) {
             for (int what = 0; what <= 10; what++) {
-                told.append(jar(lid, jar, what)).append(' ');
+                told.append(' ').append(jar(lid, jar, what));
             }
         }
         for (int hand = 0; hand < lid.count(1); hand++) {
             for (int what = 0; what <= 6; what++) {
-                told.append(lid.hand(hand, what)).append(' ');
+                told.append(' ').append(lid.hand(hand, what));
             }
+        }
+        return told.toString();
+    }
+
+    /** Everything that calls can tell of an object without changing it. */
+    static String all(TightLid lid) {
+        StringBuilder told = new StringBuilder(scene(lid)).append(" : ");
+        for (int what = 0; what < 12; what++) {
+            told.append(lid.count(what)).append(' ');
         }
         for (int i = 0; i < lid.count(11); i++) {
             told.append(lid.log(i, 0)).append('@').append(lid.log(i, 1)).append(' ');

@@ -28,6 +28,10 @@ final class Edge {
     }
 
     static void open() throws IOException {
+        if (!Files.exists(DOCUMENT)) {
+            System.out.println("no " + DOCUMENT + ": its words are not looked at");
+            return;
+        }
         String whole = Files.readString(DOCUMENT);
         int face = whole.indexOf("## The public face");
         int terms = whole.indexOf("## Terms");
@@ -44,9 +48,11 @@ final class Edge {
     /** What is looked at from here on is this sentence's own test. */
     static void says(String quote) {
         close();
-        int at = document.indexOf(quote);
-        Check.due("the document says once: " + quote, at >= 0 && document.indexOf(quote, at + 1) < 0, true);
-        QUOTED.add(new int[] {at, at + quote.length()});
+        if (!document.isEmpty()) {
+            int at = document.indexOf(quote);
+            Check.due("the document says once: " + quote, at >= 0 && document.indexOf(quote, at + 1) < 0, true);
+            QUOTED.add(new int[] {at, at + quote.length()});
+        }
         sentence = quote.length() > 90 ? quote.substring(0, 90) + ".." : quote;
         looked = 0;
     }

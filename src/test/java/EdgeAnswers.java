@@ -123,6 +123,9 @@ final class EdgeAnswers {
             refused("run(1, " + what + ")", lid -> lid.run(1, what), -1);
             Edge.due("of one that opens", byOpen().run(0, what), -1);
         }
+        TightLid four = EdgePromises.four(2, "w");
+        Check.text(four, 0, "j;h");
+        Edge.row("of four plans", plan -> four.run(plan, 2), 10, 10, 10, 10, -1);
         refused("not open", lid -> lid.run(0, 0), -1);
         refused("not cracked", lid -> lid.run(0, 1), -1);
         refused("minutes to its end", lid -> lid.run(0, 2), 2);
@@ -392,6 +395,9 @@ final class EdgeAnswers {
         }
         refusedInAll("perform(0)", lid -> lid.perform(0), -1);
         refusedInAll("perform(1)", lid -> lid.perform(1), -1);
+        TightLid four = EdgePromises.four(2, "w");
+        Check.text(four, 0, "j;h");
+        Edge.row("of four plans", four::perform, 1, 1, 1, 1, -1);
         Edge.due("to its end", EdgePromises.closed().perform(0), 2);
         Edge.due("till it is cracked", EdgePromises.closed().perform(1), 2);
         Edge.due("beside an open one", byOpen().perform(0), 2);

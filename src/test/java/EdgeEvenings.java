@@ -270,7 +270,7 @@ final class EdgeEvenings {
         lid.work(2);
         lid.heat(5);
         Edge.due("image", lid.image(), 3);
-        String seen = state(lid);
+        String seen = Check.scene(lid);
         lid.turn(1, -1, 0);
         lid.table(1);
         lid.turn(0, -1, 1);
@@ -281,7 +281,7 @@ final class EdgeEvenings {
         lid.law(0);
         lid.tried(5, false);
         Edge.due("back", lid.back(), 3);
-        Edge.same("they are so again", state(lid), seen);
+        Edge.same("they are so again", Check.scene(lid), seen);
         Edge.due("no act can be undone", lid.count(10), 0);
         Edge.due("undo", lid.undo(), -1);
         Edge.due("the log stays", lid.count(11), 10);
@@ -292,27 +292,11 @@ final class EdgeEvenings {
         Edge.due("an act behind it", lid.count(10), 1);
         Edge.due("at the minute", lid.log(0, 1), 4);
         Edge.due("can be undone", lid.undo(), 0);
-        Edge.same("to the image", state(lid), seen);
+        Edge.same("to the image", Check.scene(lid), seen);
         Edge.due("it no farther", lid.undo(), -1);
         lid.work(0);
         Edge.due("back once more", lid.back(), 3);
-        Edge.same("the image stays", state(lid), seen);
-    }
-
-    private static String state(TightLid lid) {
-        StringBuilder told = new StringBuilder();
-        told.append(lid.count(6)).append(' ').append(lid.count(7));
-        for (int jar = 0; jar < lid.count(0); jar++) {
-            for (int what = 0; what <= 10; what++) {
-                told.append(' ').append(Check.jar(lid, jar, what));
-            }
-        }
-        for (int hand = 0; hand < lid.count(1); hand++) {
-            for (int what = 0; what <= 6; what++) {
-                told.append(' ').append(lid.hand(hand, what));
-            }
-        }
-        return told.toString();
+        Edge.same("the image stays", Check.scene(lid), seen);
     }
 
     private static void constants() {

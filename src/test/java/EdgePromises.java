@@ -213,7 +213,7 @@ final class EdgePromises {
         Edge.due("four jars", Check.text(lid, 0, "j;j;j;j;h"), 4);
     }
 
-    private static TightLid four(int sort, String text) {
+    static TightLid four(int sort, String text) {
         TightLid lid = new TightLid();
         for (int i = 0; i < 4; i++) {
             Edge.due("number", Check.text(lid, sort, text), i);
@@ -384,6 +384,7 @@ final class EdgePromises {
             Edge.looks(lid, "step(" + row[0] + ", " + row[1] + ")", () -> lid.step(row[0], row[1]), -1);
         }
         Edge.due("of no plans", new TightLid().step(0, 0), -1);
+        Edge.row("of four plans", plan -> four(2, "w").step(plan, 0), 4, 4, 4, 4, -1);
     }
 
     private static void grip() {

@@ -141,6 +141,14 @@ final class EdgeSearches {
         soonest("jv50s43;hp90w9t1", 2, false, Check.HIDDEN, Check.HIDDEN);
         soonest("jv3s0c3;hp12w1", 2, false, 2, 4);
         soonest("jv30s22c1w9;hp50s1;hp50s9", 2, false, 2, 3);
+        soonest("jv20s13;hp0;ta30", 2, false, 2, 0);
+        soonest("jv99s99;hp99;hp99;hp99;hp99;hp99;hp99;ta9;ta9;ta9;ta9", 3, false, Check.HIDDEN, Check.HIDDEN);
+        TightLid nobody = Check.kitchen("j;h;h;t");
+        Check.text(nobody, 1, "y:s=0?99;y:0");
+        nobody.law(0);
+        for (int k = 1; k <= 3; k++) {
+            Edge.due("a hand that is not there does not try", nobody.soonest(k, true, 0), Check.HIDDEN);
+        }
         soonestAgain();
     }
 

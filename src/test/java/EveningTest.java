@@ -190,14 +190,14 @@ public final class EveningTest {
         lid.pause(3);
         Check.due("image", lid.image(), 4);
         Check.due("an image is no act", lid.count(10), 2);
-        String seen = state(lid);
+        String seen = Check.scene(lid);
         lid.turn(1, -1, 0);
         lid.table(1);
         lid.heat(8);
         lid.dry(0);
         lid.work(2);
         Check.due("back", lid.back(), 4);
-        Check.same("as it was", state(lid), seen);
+        Check.same("as it was", Check.scene(lid), seen);
         Check.due("no act can be undone", lid.undo(), -1);
         Check.due("the log stays", lid.count(11), 7);
         Check.due("its latest", lid.log(0, 0), 2);
@@ -216,22 +216,6 @@ public final class EveningTest {
         lid.back();
         Check.due("a law holds on", lid.count(8), 0);
         Check.due("no kitchen: image", new TightLid().image(), -1);
-    }
-
-    private static String state(TightLid lid) {
-        StringBuilder told = new StringBuilder();
-        told.append(lid.count(6)).append(' ').append(lid.count(7));
-        for (int jar = 0; jar < 2; jar++) {
-            for (int what = 0; what <= 10; what++) {
-                told.append(' ').append(Check.jar(lid, jar, what));
-            }
-        }
-        for (int hand = 0; hand < 2; hand++) {
-            for (int what = 0; what <= 6; what++) {
-                told.append(' ').append(lid.hand(hand, what));
-            }
-        }
-        return told.toString();
     }
 
     private static void counts() {
