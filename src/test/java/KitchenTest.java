@@ -6,6 +6,7 @@ public final class KitchenTest {
         toldNumbers();
         laws();
         worths();
+        longWorths();
         plainGrips();
         lacking();
         whoAndLefties();
@@ -129,6 +130,16 @@ public final class KitchenTest {
         worth("y:p=40&p<41&p>39?1;y:2", 1, 1);
         worth("y:p=41|p<40|p>40?1;y:2", 2, 2);
         worth("y:[[[[[[p+1]+1]+1]+1]+1]+1]+1", 47, 47);
+    }
+
+    /** Laws that fill the tape, and those that leave the most undone till their last sign. */
+    private static void longWorths() {
+        String full = "y:!p=0?s" + "+s".repeat(96);
+        Check.due("a full tape", full.length(), 200);
+        worth(full, 97 * 6, 97 * 6);
+        worth("y:!p=40?s" + "+s".repeat(93) + ";y:a", 15, 0);
+        worth("y:" + "p=0|p=40&(".repeat(6) + "p=0|p=40&p=0+1*p" + ")".repeat(6) + "?7", 7, 7);
+        worth("y:p=0|p=40&0=40-1*" + "[0+1*".repeat(6) + "p" + "]".repeat(6) + "?7", 7, 7);
     }
 
     private static void plainGrips() {
